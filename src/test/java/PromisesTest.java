@@ -400,6 +400,10 @@ public final class PromisesTest {
         x.take();
         checks.due("torn(0, 1), taken", x.torn(0, 1), 0);
         checks.due("torn(2, 0), taken", x.torn(2, 0), 1);
+        x.need(2, 0, 1);
+        checks.due("torn(2, 0), of strength 1", x.torn(2, 0), 1);
+        x.need(2, 0, 0);
+        checks.due("torn(2, 0), not needed any more", x.torn(2, 0), 0);
     }
 
     private static void chance() {
@@ -414,6 +418,7 @@ public final class PromisesTest {
         checks.due("chance(0, 2, 3)", x.chance(0, 2, 3), 3);
         checks.due("chance(0, 1, 6), above 8", x.chance(0, 1, 6), STATE);
         checks.due("chance(1, 0, 8), of another one", x.chance(1, 0, 8), 0);
+        checks.due("chance(1, 2, 1), above 8", x.chance(1, 2, 1), STATE);
         checks.due("total(3)", x.total(3), 3);
         checks.due("chance(0, 1, 0)", x.chance(0, 1, 0), 5);
         checks.due("chance(0, 2, 8)", x.chance(0, 2, 8), 3);
@@ -609,6 +614,17 @@ public final class PromisesTest {
         x.task(1);
         checkTeams(x, 3, 0, 0, 1, 0, 1);
         checkTeams(x, 2, 0, 1, 1, 0, 2);
+        // 0, 0, 1, 2, 2, 1 would have the lesser numbers, but three teams.
+        DesignTurns y = tasks(1, 1, 1, 1, 1, 1);
+        y.need(2, 5, 2);
+        y.need(4, 3, 1);
+        checkTeams(y, 3, 0, 1, 0, 1, 1, 0);
+        // Two teams of three would be fewer, but there would be more between them.
+        DesignTurns z = tasks(1, 1, 1, 1, 1, 1);
+        z.need(0, 1, 9);
+        z.need(3, 2, 9);
+        z.need(4, 5, 9);
+        checkTeams(z, 3, 0, 0, 1, 1, 2, 2);
     }
 
     private static void checkTeams(DesignTurns x, int k, int... want) {
