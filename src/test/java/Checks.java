@@ -9,6 +9,10 @@ final class Checks {
         promise = name;
     }
 
+    int asked() {
+        return asked;
+    }
+
     void due(String call, long got, long want) {
         asked++;
         if (got != want) {

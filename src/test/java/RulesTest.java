@@ -22,7 +22,7 @@ public final class RulesTest {
             "int team(int, int)", "long force(int, int, boolean)", "int reach(int, int)", "int total(int)"));
     private static final List<String> FORBIDDEN = List.of(
             "\\bthrow\\b", "\\bthrows\\b", "\\btry\\b", "\\bcatch\\b", "\\bsynchronized\\b", "\\bassert\\b",
-            "->", "::", "\\bprotected\\b", "\\bstatic \\{", "\\bExact\\b", "\\btoString\\b", "\\bequals\\b",
+            "->", "::", "\\bprotected\\b", "\\bstatic \\{", "Exact\\b", "\\btoString\\b", "\\bequals\\b",
             "\\bhashCode\\b", "\\bSystem\\.(?!arraycopy)", "\\bRandom\\b", "\\bThread\\b", "\\bInteger\\.",
             "\\bLong\\.", "\\bwhile\\b");
 
