@@ -157,8 +157,8 @@ final class EdgesOfTerms extends Edges {
                 due("blocks()", bare(count, 1).blocks(), count);
             }
         });
-        String words = "BLOCKS are numbered 0, 1, .. so: of those not numbered yet of which no TASK needs one of another"
-                + " BLOCK that is not numbered yet, the one with the least TASK comes next.";
+        String words = "BLOCKS are numbered 0, 1, .. so: of those not numbered yet of which no TASK needs one"
+                + " of another BLOCK that is not numbered yet, the one with the least TASK comes next.";
         test(words, "two that may come: the one with the least task", () -> {
             // The ring of 2 and 3 needs 4; 0 needs the ring; 1 needs none.
             DesignTurns x = bare(5, 1);
@@ -207,7 +207,7 @@ final class EdgesOfTerms extends Edges {
                 due("tasks of the least order", least, (1 << count) - 1);
             }
         });
-        test("A NEED is TORN in it, if the TASK that is needed comes behind the one that needs it.", "next to it", () -> {
+        test("A NEED is TORN in it, if the TASK that is needed comes behind the one that needs it.", "next", () -> {
             DesignTurns x = chain(2, 1, 1);
             due("torn(0, 1)", x.torn(0, 1), 1);
             x.swap(0, 1);
@@ -323,8 +323,8 @@ final class EdgesOfTerms extends Edges {
             x.time(0, 20);
             due("mean(true), another time", x.mean(true), 40);
         });
-        String words = "then, by the CHANCES of those b that stand at places ahead of it, one goes back to the place of b,"
-                + " and on from there again; else one goes on to the next place.";
+        String words = "then, by the CHANCES of those b that stand at places ahead of it, one goes back to the place"
+                + " of b, and on from there again; else one goes on to the next place.";
         test(words, "all from there on is done again", () -> {
             DesignTurns x = tasks(1, 2, 4, 8);
             x.chance(2, 0, 5);
@@ -352,7 +352,7 @@ final class EdgesOfTerms extends Edges {
             x.swap(0, 1);
             dueFraction("mean", x.mean(true), x.mean(false), 6, 1);
         });
-        test("THE MEAN: how long it takes on the mean till one goes on from the last place;", "the last goes back", () -> {
+        test("THE MEAN: how long it takes on the mean till one goes on from the last place;", "of two", () -> {
             DesignTurns x = tasks(20, 20);
             x.chance(1, 0, 8);
             dueFraction("mean", x.mean(true), x.mean(false), 200, 1);
@@ -395,8 +395,8 @@ final class EdgesOfTerms extends Edges {
     }
 
     private void beside() {
-        String words = "BESIDE one another, by an ORDER: each TASK begins when all that it needs, and that stand ahead of it"
-                + " in the ORDER, are done (at 0, if there are none): it ENDS its TIME later;";
+        String words = "BESIDE one another, by an ORDER: each TASK begins when all that it needs, and that stand"
+                + " ahead of it in the ORDER, are done (at 0, if there are none): it ENDS its TIME later;";
         test(words, "none ahead", () -> {
             DesignTurns x = chain(8, 1, 1);
             for (int task = 0; task < MOST; task++) {
@@ -493,7 +493,8 @@ final class EdgesOfTerms extends Edges {
                 }
             }
         });
-        String words = "of like ones, TASK by TASK the lesser number, TEAMS being numbered as they are met (TASK 0 is in TEAM 0).";
+        String words = "of like ones, TASK by TASK the lesser number, TEAMS being numbered as they are met"
+                + " (TASK 0 is in TEAM 0).";
         test(words, "as many as may be stand in the first", () -> {
             dueTeams(bare(8, 1), 3, 0, 0, 0, 1, 1, 1, 2, 2);
             dueTeams(bare(8, 1), 5, 0, 0, 0, 0, 0, 1, 1, 1);
@@ -515,8 +516,8 @@ final class EdgesOfTerms extends Edges {
     }
 
     private void changes() {
-        String words = "A CHANGE of a TASK spreads to those that need it, and so on: along a WAY of NEEDS no TASK of which"
-                + " comes twice its FORCE is the product of STRENGTHS by 10 each.";
+        String words = "A CHANGE of a TASK spreads to those that need it, and so on: along a WAY of NEEDS no TASK"
+                + " of which comes twice its FORCE is the product of STRENGTHS by 10 each.";
         test(words, "a ring makes none stronger", () -> {
             DesignTurns x = web(3, 1, 9);
             for (int a = 0; a < 3; a++) {
