@@ -3,103 +3,155 @@ import java.lang.reflect.Constructor;
 import java.lang.reflect.Field;
 import java.lang.reflect.Method;
 import java.lang.reflect.Modifier;
+import java.nio.charset.StandardCharsets;
 import java.nio.file.Files;
 import java.nio.file.Path;
+import java.util.ArrayList;
 import java.util.List;
 import java.util.Set;
 import java.util.TreeSet;
+import java.util.regex.Matcher;
 import java.util.regex.Pattern;
 
 /** What of the rules of the language can be read from the class and from its text. */
 public final class RulesTest {
     private static final Path SOURCE = Path.of("src/main/java/DesignTurns.java");
-    private static final Set<String> FACE = new TreeSet<>(List.of(
-            "int task(int)", "int time(int, int)", "int need(int, int, int)", "int strength(int, int)",
-            "int leans(int, int)", "int blocks()", "int block(int)", "int least()", "int leastAt(int)",
-            "int saved(int, int)", "int at(int)", "int swap(int, int)", "int take()", "int guess()",
-            "int torn(int, int)", "int chance(int, int, int)", "long mean(boolean)",
-            "long often(int, boolean)", "int ends(int)", "int span()", "int between(int)",
-            "int team(int, int)", "long force(int, int, boolean)", "int reach(int, int)", "int total(int)"));
     private static final List<String> FORBIDDEN = List.of(
             "\\bthrow\\b", "\\bthrows\\b", "\\btry\\b", "\\bcatch\\b", "\\bsynchronized\\b", "\\bassert\\b",
             "->", "::", "\\bprotected\\b", "\\bstatic \\{", "Exact\\b", "\\btoString\\b", "\\bequals\\b",
             "\\bhashCode\\b", "\\bSystem\\.(?!arraycopy)", "\\bRandom\\b", "\\bThread\\b", "\\bInteger\\.",
-            "\\bLong\\.", "\\bwhile\\b");
+            "\\bLong\\.", "\\bwhile\\b", "\\bpackage\\b", "\\bvar\\b", "\\bnull\\b", "\\binstanceof\\b",
+            "\\bArrays\\.(?!fill)", "\\bMath\\.(?!min|max)", "\\bimport (?!java\\.util\\.Arrays;)");
+    private static final int MOST_CLASSES = 12;
+    private static final int MOST_FIELDS = 20;
+    private static final int MOST_PARAMETERS = 7;
+    private static final int MOST_LINES = 60;
 
     private static final Checks checks = new Checks();
+    private static String text;
 
     public static void main(String[] args) throws IOException {
-        face();
+        text = Files.readString(SOURCE).replaceAll("(?s)/\\*.*?\\*/", "").replaceAll("//.*", "");
+        classesInside();
         namesOfFaceStandOnce();
-        text();
+        typesOfFields();
+        words();
+        loops();
+        limits();
+        lengths();
         nothingIsMadeInCalls();
         checks.end();
     }
 
-    private static void face() {
-        checks.promise("rule 1");
-        Set<String> open = new TreeSet<>();
-        for (Method method : DesignTurns.class.getDeclaredMethods()) {
-            if (Modifier.isPublic(method.getModifiers())) {
-                open.add(told(method));
-            } else {
-                checks.dueTrue(method + " is not private", Modifier.isPrivate(method.getModifiers()));
-            }
-        }
-        checks.dueTrue("the public methods are " + open, open.equals(FACE));
-        Set<String> constants = new TreeSet<>();
-        for (Field field : DesignTurns.class.getDeclaredFields()) {
-            if (Modifier.isPublic(field.getModifiers())) {
-                constants.add(field.getName());
-            } else {
-                checks.dueTrue(field + " is not private", Modifier.isPrivate(field.getModifiers()));
-            }
-        }
-        checks.dueTrue("the constants are " + constants,
-                constants.equals(Set.of("UNKNOWN", "BAD", "STATE", "FULL", "NONE")));
-        Constructor<?>[] constructors = DesignTurns.class.getDeclaredConstructors();
-        checks.due("constructors", constructors.length, 1);
-        checks.dueTrue("the class is public and final", DesignTurns.class.getModifiers()
-                == (Modifier.PUBLIC | Modifier.FINAL));
+    /** The class of the document and all inside it. */
+    private static List<Class<?>> classes() {
+        List<Class<?>> classes = new ArrayList<>(List.of(DesignTurns.class));
+        classes.addAll(List.of(DesignTurns.class.getDeclaredClasses()));
+        return classes;
     }
 
-    private static String told(Method method) {
-        StringBuilder text = new StringBuilder(method.getReturnType() + " " + method.getName() + "(");
-        String gap = "";
-        for (Class<?> type : method.getParameterTypes()) {
-            text.append(gap).append(type);
-            gap = ", ";
+    private static void classesInside() {
+        checks.promise("rules 1 and 2");
+        for (Class<?> inside : DesignTurns.class.getDeclaredClasses()) {
+            checks.dueTrue(inside + " is static", Modifier.isStatic(inside.getModifiers()));
+            checks.dueTrue(inside + " is private", Modifier.isPrivate(inside.getModifiers()));
+            checks.dueTrue(inside + " has classes inside", inside.getDeclaredClasses().length == 0);
         }
-        return text.append(")").toString();
     }
 
     private static void namesOfFaceStandOnce() {
         checks.promise("rule 1, names");
         Set<String> names = new TreeSet<>();
-        for (String method : FACE) {
-            names.add(method.substring(method.indexOf(' ') + 1, method.indexOf('(')));
+        for (Method method : DesignTurns.class.getDeclaredMethods()) {
+            if (Modifier.isPublic(method.getModifiers())) {
+                names.add(method.getName());
+            }
         }
-        for (Class<?> inside : DesignTurns.class.getDeclaredClasses()) {
-            checks.dueTrue(inside + " is static", Modifier.isStatic(inside.getModifiers()));
-            checks.dueTrue(inside + " is private", Modifier.isPrivate(inside.getModifiers()));
-            for (Method method : inside.getDeclaredMethods()) {
-                checks.dueTrue(method + " bears a name of the face", !names.contains(method.getName()));
+        for (Class<?> each : classes()) {
+            for (Method method : each.getDeclaredMethods()) {
+                checks.dueTrue(method + " bears a name of the face", !names.contains(method.getName())
+                        || each == DesignTurns.class && Modifier.isPublic(method.getModifiers()));
             }
         }
     }
 
-    private static void text() throws IOException {
-        checks.promise("rules 4 to 6, 9");
-        String text = Files.readString(SOURCE).replaceAll("(?s)/\\*.*?\\*/", "").replaceAll("//.*", "");
-        for (String word : FORBIDDEN) {
-            checks.dueTrue("the text has " + word, !Pattern.compile(word).matcher(text).find());
+    private static void typesOfFields() {
+        checks.promise("rules 3 and 5");
+        for (Class<?> each : classes()) {
+            for (Field field : each.getDeclaredFields()) {
+                Class<?> type = field.getType();
+                boolean number = type == int.class || type == long.class;
+                boolean row = type == int[].class || type == long[].class;
+                boolean own = classes().contains(type);
+                boolean constant = Modifier.isStatic(field.getModifiers());
+                checks.dueTrue(field + " has a type that is none of these", number || row || own);
+                checks.dueTrue(field + " is static and no constant number",
+                        !constant || number && Modifier.isFinal(field.getModifiers()));
+                checks.dueTrue(field + " may be another one later",
+                        number || Modifier.isFinal(field.getModifiers()));
+            }
         }
     }
 
+    private static void words() {
+        checks.promise("rules 4 to 6, 13");
+        for (String word : FORBIDDEN) {
+            checks.dueTrue("the text has " + word, !Pattern.compile(word).matcher(text).find());
+        }
+        checks.dueTrue("the text has signs above 127", StandardCharsets.US_ASCII.newEncoder().canEncode(text));
+    }
+
+    /** Each loop goes over an array, or it has a counter that steps by one towards a bound. */
+    private static void loops() {
+        checks.promise("rule 9");
+        Matcher matcher = Pattern.compile("\\bfor \\((.*)\\) \\{").matcher(text);
+        int told = 0;
+        for (; matcher.find(); told++) {
+            String loop = matcher.group(1);
+            checks.dueTrue("no end is seen of: " + loop, loop.matches("(int|long) \\w+ : \\w+")
+                    || loop.matches("int (\\w+) = [^;]*; \\1 <=? [^;]*; \\1\\+\\+")
+                    || loop.matches("int (\\w+) = [^;]*; \\1 >=? [^;]*; \\1--"));
+        }
+        checks.due("loops", told, text.split("\\bfor\\b", -1).length - 1);
+    }
+
+    private static void limits() {
+        checks.promise("rule 11");
+        checks.dueTrue("there are too many classes", classes().size() <= MOST_CLASSES);
+        for (Class<?> each : classes()) {
+            int fields = 0;
+            for (Field field : each.getDeclaredFields()) {
+                fields += Modifier.isStatic(field.getModifiers()) ? 0 : 1;
+            }
+            checks.dueTrue(each + " has too many fields", fields <= MOST_FIELDS);
+            for (Method method : each.getDeclaredMethods()) {
+                checks.dueTrue(method + " takes too much", method.getParameterCount() <= MOST_PARAMETERS);
+            }
+            for (Constructor<?> constructor : each.getDeclaredConstructors()) {
+                checks.dueTrue(constructor + " takes too much", constructor.getParameterCount() <= MOST_PARAMETERS);
+            }
+        }
+    }
+
+    private static void lengths() {
+        checks.promise("rule 11, lengths");
+        Matcher matcher = Pattern.compile("(?ms)^( {4}| {8})(?! )([^\n]*\\)) \\{\n(.*?)^\\1\\}").matcher(text);
+        int told = 0;
+        for (; matcher.find(); told++) {
+            int lines = matcher.group(3).split("\n").length;
+            checks.dueTrue(matcher.group(2) + " has " + lines + " lines", lines <= MOST_LINES);
+        }
+        int methods = 1;
+        for (Class<?> each : classes()) {
+            methods += each.getDeclaredMethods().length;
+        }
+        checks.due("methods met in the text, with the constructor", told, methods);
+    }
+
     /** All rows are made with the object, so a run's calls take no room. */
-    private static void nothingIsMadeInCalls() throws IOException {
+    private static void nothingIsMadeInCalls() {
         checks.promise("rule 12 and the room");
-        for (String line : Files.readAllLines(SOURCE)) {
+        for (String line : text.split("\n")) {
             checks.dueTrue("made in a call: " + line,
                     !line.contains(" new ") || line.matches(" +private final .*= new .*;"));
             checks.dueTrue("copied in a call: " + line, !line.contains("copyOf") && !line.contains("clone"));
