@@ -8,7 +8,9 @@ import java.nio.file.Files;
 import java.nio.file.Path;
 import java.util.ArrayList;
 import java.util.List;
+import java.util.Map;
 import java.util.Set;
+import java.util.TreeMap;
 import java.util.TreeSet;
 import java.util.regex.Matcher;
 import java.util.regex.Pattern;
@@ -26,6 +28,9 @@ public final class RulesTest {
     private static final int MOST_FIELDS = 20;
     private static final int MOST_PARAMETERS = 7;
     private static final int MOST_LINES = 60;
+    private static final int MOST_CALLS_OPEN = 8;
+    private static final Pattern METHOD = Pattern.compile("(?ms)^( {4}| {8})(?! )([^\n]*\\)) \\{\n(.*?)^\\1\\}");
+    private static final Pattern CALL = Pattern.compile("(\\w+)\\(");
 
     private static final Checks checks = new Checks();
     private static String text;
@@ -39,6 +44,7 @@ public final class RulesTest {
         loops();
         limits();
         lengths();
+        callsOpen();
         nothingIsMadeInCalls();
         checks.end();
     }
@@ -135,7 +141,7 @@ public final class RulesTest {
 
     private static void lengths() {
         checks.promise("rule 11, lengths");
-        Matcher matcher = Pattern.compile("(?ms)^( {4}| {8})(?! )([^\n]*\\)) \\{\n(.*?)^\\1\\}").matcher(text);
+        Matcher matcher = METHOD.matcher(text);
         int told = 0;
         for (; matcher.find(); told++) {
             int lines = matcher.group(3).split("\n").length;
@@ -146,6 +152,50 @@ public final class RulesTest {
             methods += each.getDeclaredMethods().length;
         }
         checks.due("methods met in the text, with the constructor", told, methods);
+    }
+
+    /** One method calls itself, a task deeper each time; else few calls stand open at once. */
+    private static void callsOpen() {
+        checks.promise("rules 8 and 11, calls");
+        Map<String, Set<String>> calls = callsByName();
+        Set<String> callThemselves = new TreeSet<>();
+        for (String name : calls.keySet()) {
+            if (calls.get(name).remove(name)) {
+                callThemselves.add(name);
+            }
+        }
+        checks.dueTrue("these call themselves: " + callThemselves, callThemselves.equals(Set.of("assign")));
+        checks.dueTrue("assign is not private and static", text.contains(" private static void assign("));
+        checks.dueTrue("assign goes not a task deeper", text.contains(" assign(search, needs, task + 1, "));
+        checks.dueTrue("assign goes deeper than there are tasks", text.contains("|| task >= MOST_TASKS) {"));
+        for (String name : calls.keySet()) {
+            checks.dueTrue(name + " goes too deep, or comes round to itself", isWithin(name, calls, MOST_CALLS_OPEN));
+        }
+    }
+
+    /** For each method's name the names of the class's own methods that it calls; those of one name are as one. */
+    private static Map<String, Set<String>> callsByName() {
+        Map<String, Set<String>> calls = new TreeMap<>();
+        for (Matcher method = METHOD.matcher(text); method.find();) {
+            Matcher name = CALL.matcher(method.group(2));
+            checks.dueTrue("no name in " + method.group(2), name.find());
+            Set<String> called = calls.computeIfAbsent(name.group(1), unused -> new TreeSet<>());
+            for (Matcher call = CALL.matcher(method.group(3)); call.find();) {
+                called.add(call.group(1));
+            }
+        }
+        for (Set<String> called : calls.values()) {
+            called.retainAll(calls.keySet());
+        }
+        return calls;
+    }
+
+    private static boolean isWithin(String name, Map<String, Set<String>> calls, int most) {
+        boolean within = most > 0;
+        for (String called : calls.get(name)) {
+            within = within && isWithin(called, calls, most - 1);
+        }
+        return within;
     }
 
     /** All rows are made with the object, so a run's calls take no room. */
